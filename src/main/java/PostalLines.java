@@ -896,8 +896,7 @@ public final class PostalLines {
             townRows.fill(TOWN, places, fitting, text.size);
             for (int k = text.size; k >= 0; k--) {
                 for (int place = grammars.sizeOf(grammar); place >= 0; place--) {
-                    int cell = k * WIDTH + place;
-                    if (cell >= 0 && cell < ways.length) ways[cell] = leastWay(grammar, k, place);
+                    putWay(k, place, leastWay(grammar, k, place));
                 }
             }
             best = wayAt(0, 0);
@@ -982,6 +981,11 @@ public final class PostalLines {
         private long wayAt(int k, int place) {
             int cell = k * WIDTH + place;
             return cell >= 0 && cell < ways.length ? ways[cell] : NO_WAY;
+        }
+
+        private void putWay(int k, int place, long way) {
+            int cell = k * WIDTH + place;
+            if (cell >= 0 && cell < ways.length) ways[cell] = way;
         }
 
         private static long plus(long way, int cost, long marks) {
