@@ -862,7 +862,7 @@ public final class PostalLines {
      */
     private static final class Reader {
         private static final int MARK_BITS = 3, COST_SHIFT = MARK_BITS * MAX_WORDS, WIDTH = PARTS + 1;
-        private static final long NO_WAY = Long.MAX_VALUE;
+        private static final long NO_WAY = 1L << 62;
 
         private final Words text;
         private final Places places;

@@ -211,6 +211,11 @@ public final class DeliveryTest {
         y.unit(Check.name(y, "\ud83d\ude00"));
         canonical(y, "\u00e9t\u00e9 9a \ud83d\ude00b \ud83d\ude00 \udbff\udfffx", "\u00e9t\u00e9 9a \ud83d\ude00b \ud83d\ude00 \udbff\udfffx");
         check.due("the folded STREET's first SIGN stays", y.unitAt(0), 233);
+        String least = "\ud800\udc00 \udbff\udfff \uffff \ud83f\udfff";
+        PostalLines w = new PostalLines();
+        Check.grammar(w, 0, STREET);
+        w.street(Check.name(w, least));
+        canonical(w, least, least);
         PostalLines z = new PostalLines();
         z.fold('S', 'x', -1);
         z.street(Check.name(z, "az z"));

@@ -143,7 +143,7 @@ public final class LineTest {
     private static void brokenLines() {
         PostalLines x = new PostalLines();
         String[] broken = {"a\ud800", "\udc00a", "\ud800\ud800\udc00", "\ud800\udc00\udc00", "\ud83da\ude00",
-            "\udc00\ud800", "\udfff", "\udbff", "abcdefghijklmnopq \ud800", "\ud800", "..\udfff.."};
+            "\udc00\ud800", "\udfff", "\udbff", "\udc00\udc01", "\ud800\ue000", "\udbff\udbff", "abcdefghijklmnopq \ud800", "\ud800", "..\udfff.."};
         for (String line : broken) {
             Check.line(x, line);
             check.due("words() of a BROKEN line", x.words(), PostalLines.BROKEN);
