@@ -33,10 +33,15 @@ final class Check {
         if (!faults.isEmpty()) System.exit(1);
     }
 
-    /** Puts the UNITS of a text behind THE LINE; the last answer of feed. */
+    /** Puts the UNITS of a text behind THE LINE, four a call; the last answer of feed. */
     static int feed(PostalLines x, String text) {
-        int answer = x.count(0);
-        for (int i = 0; i < text.length(); i++) answer = x.feed(text.charAt(i), 1);
+        int answer = 0;
+        for (int i = 0; i < text.length(); i += 4) {
+            int n = Math.min(4, text.length() - i);
+            long w = 0;
+            for (int k = 0; k < n; k++) w = w << 16 | text.charAt(i + k);
+            answer = x.feed(w, n);
+        }
         return answer;
     }
 
@@ -50,6 +55,45 @@ final class Check {
     static int name(PostalLines x, String text) {
         line(x, text);
         return x.name();
+    }
+
+    /** NAMES of one WORD each, the SIGNS 200, 201 and so on; three calls each. */
+    static void names(PostalLines x, int n) {
+        for (int i = 0; i < n; i++) {
+            x.drop();
+            x.feed(200 + i, 1);
+            x.name();
+        }
+    }
+
+    static int street(PostalLines x, String name) {
+        return x.street(name(x, name));
+    }
+
+    /** A TOWN with all CODES. */
+    static int town(PostalLines x, String name) {
+        return x.town(name(x, name), 0, 99999);
+    }
+
+    static int unit(PostalLines x, String name) {
+        return x.unit(name(x, name));
+    }
+
+    static int shorten(PostalLines x, String name, String whole) {
+        int a = name(x, name);
+        return x.shorten(a, name(x, whole));
+    }
+
+    /** A text becomes THE LINE and is READ by GRAMMAR 0. */
+    static int read(PostalLines x, String text) {
+        line(x, text);
+        return x.read(0);
+    }
+
+    static String times(String text, int n) {
+        StringBuilder all = new StringBuilder();
+        for (int i = 0; i < n; i++) all.append(text);
+        return all.toString();
     }
 
     /** THE LINE as a text. */

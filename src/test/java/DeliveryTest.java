@@ -28,11 +28,6 @@ public final class DeliveryTest {
         return x;
     }
 
-    private static int read(PostalLines x, String line) {
-        Check.line(x, line);
-        return x.read(0);
-    }
-
     private static void fields(PostalLines x, int delivery, int... want) {
         for (int what = 0; what < want.length; what++) {
             check.due("of(" + delivery + ", " + what + ")", x.of(delivery, what), want[what]);
@@ -41,29 +36,29 @@ public final class DeliveryTest {
 
     private static void fields() {
         PostalLines x = book();
-        check.due("all", read(x, "07b saint anna, apt 4C, ulm 10001"), 0);
+        check.due("all", Check.read(x, "07b saint anna, apt 4C, ulm 10001"), 0);
         fields(x, 0, 1, 1, 1, 1, 1, 7, 'b', 0, 4, 2, 0, 10001, 1);
         check.due("unitSign(0, 0)", x.unitSign(0, 0), '4');
         check.due("unitSign(0, 1)", x.unitSign(0, 1), 'c');
         for (int i : new int[] {-1, 2, 3, 4, Integer.MIN_VALUE, Integer.MAX_VALUE}) {
             check.due("unitSign(0, " + i + ")", x.unitSign(0, i), PostalLines.NONE);
         }
-        check.due("none", read(x, "x"), 1);
+        check.due("none", Check.read(x, "x"), 1);
         fields(x, 1, 0, 0, 0, 0, 0, -1, -1, -1, -1, -1, -1, -1, 1);
         check.due("unitSign(1, 0)", x.unitSign(1, 0), PostalLines.NONE);
-        check.due("a NUMBER", read(x, "00000"), 2);
+        check.due("a NUMBER", Check.read(x, "00000"), 2);
         fields(x, 2, 1, 0, 0, 0, 0, 0, 0, -1, -1, -1, -1, -1, 1);
-        check.due("a STREET", read(x, "weg"), 3);
+        check.due("a STREET", Check.read(x, "weg"), 3);
         fields(x, 3, 0, 1, 0, 0, 0, -1, -1, 1, -1, -1, -1, -1, 1);
-        check.due("a TOWN", read(x, "bonn"), 4);
+        check.due("a TOWN", Check.read(x, "bonn"), 4);
         fields(x, 4, 0, 0, 0, 1, 0, -1, -1, -1, -1, -1, 1, -1, 1);
-        check.due("a UNIT", read(x, "apt \ud83d\ude00\ud83d\ude01yz"), 5);
+        check.due("a UNIT", Check.read(x, "apt \ud83d\ude00\ud83d\ude01yz"), 5);
         fields(x, 5, 0, 0, 1, 0, 0, -1, -1, -1, 4, 4, -1, -1, 1);
         check.due("unitSign(5, 0)", x.unitSign(5, 0), 128512);
         check.due("unitSign(5, 1)", x.unitSign(5, 1), 128513);
         check.due("unitSign(5, 3)", x.unitSign(5, 3), 'z');
         check.due("unitSign(5, 4)", x.unitSign(5, 4), PostalLines.NONE);
-        check.due("TOWN and CODE", read(x, "bonn 00009"), 6);
+        check.due("TOWN and CODE", Check.read(x, "bonn 00009"), 6);
         fields(x, 6, 0, 0, 0, 1, 1, -1, -1, -1, -1, -1, 1, 9, 1);
         check.due("7 DELIVERIES", x.count(8), 7);
     }
@@ -77,7 +72,7 @@ public final class DeliveryTest {
                 check.due("carrier(" + no + ")", x.carrier(no), PostalLines.BAD);
                 check.due("canonical(" + no + ")", x.canonical(no), PostalLines.BAD);
             }
-            check.due("read", read(x, "7 weg apt 3"), 0);
+            check.due("read", Check.read(x, "7 weg apt 3"), 0);
         }
         for (int what : new int[] {-1, 13, 14, 17, Integer.MIN_VALUE, Integer.MAX_VALUE}) {
             check.due("of(0, " + what + ")", x.of(0, what), PostalLines.BAD);
@@ -87,29 +82,29 @@ public final class DeliveryTest {
 
     private static void alike() {
         PostalLines x = book();
-        check.due("first", read(x, "7 weg"), 0);
-        check.due("0s ahead", read(x, "0007 Weg"), 0);
-        check.due("LEFT ones", read(x, "7 x weg y"), 0);
+        check.due("first", Check.read(x, "7 weg"), 0);
+        check.due("0s ahead", Check.read(x, "0007 Weg"), 0);
+        check.due("LEFT ones", Check.read(x, "7 x weg y"), 0);
         check.due("READ three times", x.of(0, 12), 3);
-        check.due("a letter", read(x, "7a weg"), 1);
-        check.due("another letter", read(x, "7b weg"), 2);
-        check.due("another NUMBER", read(x, "8 weg"), 3);
-        check.due("another STREET", read(x, "7 saint anna"), 4);
-        check.due("a SLIP", read(x, "7 sant anna"), 4);
-        check.due("a TOWN", read(x, "7 weg ulm"), 5);
-        check.due("another TOWN", read(x, "7 weg bonn"), 6);
-        check.due("a UNIT", read(x, "7 weg apt 1"), 7);
-        check.due("other SIGNS", read(x, "7 weg apt 2"), 8);
-        check.due("more SIGNS", read(x, "7 weg apt 11"), 9);
-        check.due("other SIGNS", read(x, "7 weg apt 21"), 10);
-        check.due("the same UNIT", read(x, "7 weg APT, 11"), 9);
+        check.due("a letter", Check.read(x, "7a weg"), 1);
+        check.due("another letter", Check.read(x, "7b weg"), 2);
+        check.due("another NUMBER", Check.read(x, "8 weg"), 3);
+        check.due("another STREET", Check.read(x, "7 saint anna"), 4);
+        check.due("a SLIP", Check.read(x, "7 sant anna"), 4);
+        check.due("a TOWN", Check.read(x, "7 weg ulm"), 5);
+        check.due("another TOWN", Check.read(x, "7 weg bonn"), 6);
+        check.due("a UNIT", Check.read(x, "7 weg apt 1"), 7);
+        check.due("other SIGNS", Check.read(x, "7 weg apt 2"), 8);
+        check.due("more SIGNS", Check.read(x, "7 weg apt 11"), 9);
+        check.due("other SIGNS", Check.read(x, "7 weg apt 21"), 10);
+        check.due("the same UNIT", Check.read(x, "7 weg APT, 11"), 9);
         x.unit(Check.name(x, "flat"));
-        check.due("another UNIT WORD", read(x, "7 weg flat 11"), 11);
-        check.due("a CODE", read(x, "7 weg 10000"), 12);
-        check.due("another CODE", read(x, "7 weg 10001"), 13);
-        check.due("no NUMBER", read(x, "weg"), 14);
-        check.due("no STREET", read(x, "7"), 15);
-        check.due("NUMBER 0 and none are two", read(x, "0 weg"), 16);
+        check.due("another UNIT WORD", Check.read(x, "7 weg flat 11"), 11);
+        check.due("a CODE", Check.read(x, "7 weg 10000"), 12);
+        check.due("another CODE", Check.read(x, "7 weg 10001"), 13);
+        check.due("no NUMBER", Check.read(x, "weg"), 14);
+        check.due("no STREET", Check.read(x, "7"), 15);
+        check.due("NUMBER 0 and none are two", Check.read(x, "0 weg"), 16);
         Check.grammar(x, 0, STREET, NUMBER);
         Check.line(x, "weg 7");
         check.due("by another GRAMMAR", x.read(1), 0);
@@ -121,25 +116,25 @@ public final class DeliveryTest {
     private static void forty() {
         PostalLines x = new PostalLines();
         Check.grammar(x, 1, NUMBER);
-        for (int i = 0; i < 40; i++) check.due("read " + i, read(x, i + " x"), i);
-        check.due("a 41st", read(x, "40 x x"), PostalLines.FULL);
+        for (int i = 0; i < 40; i++) check.due("read " + i, Check.read(x, i + " x"), i);
+        check.due("a 41st", Check.read(x, "40 x x"), PostalLines.FULL);
         check.due("refused: the latest READING stays", x.cost(), 4);
         check.due("refused: the latest READING stays", Check.marksOf(x), "05");
         check.due("40 DELIVERIES", x.count(8), 40);
-        check.due("an old one", read(x, "7 x y"), 7);
+        check.due("an old one", Check.read(x, "7 x y"), 7);
         check.due("cost", x.cost(), 8);
         check.due("READ twice", x.of(7, 12), 2);
         check.due("of none", x.of(40, 12), PostalLines.BAD);
-        check.due("NONE ahead of FULL", read(x, "x"), PostalLines.NONE);
-        check.due("EMPTY ahead of FULL", read(x, ""), PostalLines.EMPTY);
+        check.due("NONE ahead of FULL", Check.read(x, "x"), PostalLines.NONE);
+        check.due("EMPTY ahead of FULL", Check.read(x, ""), PostalLines.EMPTY);
     }
 
     private static void carriers() {
         PostalLines x = book();
-        int plain = read(x, "7 weg"), inUlm = read(x, "7 weg ulm"), inBonn = read(x, "7 weg bonn");
-        int code = read(x, "7 weg 20000"), other = read(x, "7 weg 20001"), both = read(x, "7 weg ulm 20000");
-        int anna = read(x, "7 saint anna"), noNumber = read(x, "weg ulm"), noStreet = read(x, "7 ulm");
-        int inside = read(x, "7 weg ulm 10000"), last = read(x, "7 weg ulm 19999"), above = read(x, "7 weg bonn 19999");
+        int plain = Check.read(x, "7 weg"), inUlm = Check.read(x, "7 weg ulm"), inBonn = Check.read(x, "7 weg bonn");
+        int code = Check.read(x, "7 weg 20000"), other = Check.read(x, "7 weg 20001"), both = Check.read(x, "7 weg ulm 20000");
+        int anna = Check.read(x, "7 saint anna"), noNumber = Check.read(x, "weg ulm"), noStreet = Check.read(x, "7 ulm");
+        int inside = Check.read(x, "7 weg ulm 10000"), last = Check.read(x, "7 weg ulm 19999"), above = Check.read(x, "7 weg bonn 19999");
         for (int delivery = 0; delivery < x.count(8); delivery++) {
             check.due("no RANGE: carrier(" + delivery + ")", x.carrier(delivery), PostalLines.NONE);
         }
@@ -167,7 +162,7 @@ public final class DeliveryTest {
 
     private static void carriersOfSides() {
         PostalLines x = book();
-        int odd = read(x, "7b weg"), even = read(x, "8 weg"), zero = read(x, "0 weg"), most = read(x, "99999 weg");
+        int odd = Check.read(x, "7b weg"), even = Check.read(x, "8 weg"), zero = Check.read(x, "0 weg"), most = Check.read(x, "99999 weg");
         x.range(1, 0, 99999, 1, 0, 11);
         check.due("odd", x.carrier(odd), 11);
         check.due("even", x.carrier(even), PostalLines.NONE);
@@ -180,7 +175,7 @@ public final class DeliveryTest {
     }
 
     private static void canonical(PostalLines x, String line, String want) {
-        int delivery = read(x, line);
+        int delivery = Check.read(x, line);
         check.due("canonical of '" + line + "'", x.canonical(delivery), want.length());
         check.due("canonical of '" + line + "'", Check.lineOf(x), want);
     }
@@ -223,24 +218,18 @@ public final class DeliveryTest {
         canonical(z, "az z", "Az Z");
     }
 
-    private static String times(String text, int n) {
-        StringBuilder all = new StringBuilder();
-        for (int i = 0; i < n; i++) all.append(text);
-        return all.toString();
-    }
-
     /** A CANONICAL line of a STREET and a TOWN: 67 and so many UNITS. */
     private static void canonicalOf(int townSigns, int want) {
         PostalLines x = new PostalLines();
-        String word = times("a", 16);
+        String word = Check.times("a", 16);
         String street = word + " " + word + " " + word + " " + word;
         int first = Check.name(x, street);
         x.street(first);
         x.also(0, Check.name(x, "s"));
-        x.town(Check.name(x, word + " " + word + " " + word + " " + times("b", townSigns)), 0, 0);
+        x.town(Check.name(x, word + " " + word + " " + word + " " + Check.times("b", townSigns)), 0, 0);
         x.shorten(Check.name(x, "t"), 2);
         Check.grammar(x, 3, STREET, TOWN);
-        check.due("read", read(x, "s, t!"), 0);
+        check.due("read", Check.read(x, "s, t!"), 0);
         check.due("canonical", x.canonical(0), want);
         check.due("UNITS", x.count(0), want < 0 ? 5 : want);
         if (want < 0) check.due("THE LINE stays", Check.lineOf(x), "s, t!");
@@ -252,13 +241,13 @@ public final class DeliveryTest {
         canonicalOf(2, PostalLines.FULL);
         canonicalOf(16, PostalLines.FULL);
         PostalLines x = new PostalLines();
-        String word = times("\ud83d\ude00", 13);
+        String word = Check.times("\ud83d\ude00", 13);
         Check.grammar(x, 1, STREET);
         x.street(Check.name(x, word + " " + word + " " + word + " " + word));
         check.due("107 UNITS", Check.lineOf(x).length(), 107);
-        Check.feed(x, " " + times("x", 12));
+        Check.feed(x, " " + Check.times("x", 12));
         x.also(0, Check.name(x, "s"));
-        check.due("read", read(x, "s"), 0);
+        check.due("read", Check.read(x, "s"), 0);
         check.due("pairs count twice", x.canonical(0), 107);
         check.due("the first half", x.unitAt(0), 0xd83d);
         check.due("the second half", x.unitAt(1), 0xde00);
@@ -266,14 +255,14 @@ public final class DeliveryTest {
         y.fold('q', 0x1f600, 0x1f600);
         Check.grammar(y, 1, STREET);
         y.street(Check.name(y, "qqqqqqqq qqqqqqqq qqqqqqqq qqqqqqqq"));
-        check.due("read", read(y, "qqqqqqqq qqqqqqqq qqqqqqqq qqqqqqqq"), 0);
+        check.due("read", Check.read(y, "qqqqqqqq qqqqqqqq qqqqqqqq qqqqqqqq"), 0);
         check.due("131 UNITS", y.canonical(0), PostalLines.FULL);
         check.due("THE LINE stays", y.count(0), 35);
     }
 
     private static void canonicalIsTheLine() {
         PostalLines x = book();
-        int delivery = read(x, "07 sant anna, apt 3");
+        int delivery = Check.read(x, "07 sant anna, apt 3");
         check.due("cost", x.cost(), 9);
         check.due("canonical", x.canonical(delivery), 18);
         check.due("words() of it", x.words(), 5);

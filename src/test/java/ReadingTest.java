@@ -38,14 +38,6 @@ public final class ReadingTest {
         return x;
     }
 
-    private static void street(PostalLines x, String name) {
-        x.street(Check.name(x, name));
-    }
-
-    private static void town(PostalLines x, String name) {
-        x.town(Check.name(x, name), 0, 99999);
-    }
-
     private static void refusals() {
         PostalLines x = new PostalLines();
         for (int no : new int[] {-1, 0, Integer.MIN_VALUE, Integer.MAX_VALUE}) {
@@ -70,7 +62,7 @@ public final class ReadingTest {
 
     private static void noReading() {
         PostalLines x = with(1, NUMBER, STREET);
-        street(x, "main");
+        Check.street(x, "main");
         reads(x, "7 main", 0, "01");
         Check.line(x, "main");
         check.due("the NUMBER MUST be", x.read(0), PostalLines.NONE);
@@ -82,7 +74,7 @@ public final class ReadingTest {
         check.due("marks", Check.marksOf(x), "50");
         check.due("cost", x.cost(), 7);
         PostalLines both = with(3, NUMBER, STREET);
-        street(both, "main");
+        Check.street(both, "main");
         Check.line(both, "main 7");
         check.due("both MUST be", both.read(0), PostalLines.NONE);
         Check.line(both, "7 x main");
@@ -163,9 +155,9 @@ public final class ReadingTest {
         reads(x, "x y z", 27, "555");
         reads(x, "7", 12, "0");
         reads(x, "12345", 12, "0");
-        street(x, "main");
+        Check.street(x, "main");
         reads(x, "x 7 y main z", 21, "50515");
-        town(x, "main");
+        Check.town(x, "main");
         x.unit(Check.name(x, "main"));
         reads(x, "main main", 9, "13");
         reads(x, "main main main", 9, "122");
@@ -175,7 +167,7 @@ public final class ReadingTest {
 
     private static void breaks() {
         PostalLines x = with(0, NUMBER, STREET);
-        street(x, "a b c d");
+        Check.street(x, "a b c d");
         reads(x, "7 a b c d", 0, "01111");
         reads(x, "7, a b c d", 0, "01111");
         reads(x, "7, a, b c d", 2, "01111");
@@ -186,10 +178,10 @@ public final class ReadingTest {
         reads(y, "apt, 3", 2, "00");
         reads(y, "apt, 3 apt 4", 8, "5500");
         PostalLines z = with(0, STREET);
-        street(z, "a b");
-        street(z, "a");
+        Check.street(z, "a b");
+        Check.street(z, "a");
         reads(z, "a, b", 2, "00");
-        street(z, "b");
+        Check.street(z, "b");
         reads(z, "a, b", 2, "00");
     }
 
@@ -200,7 +192,7 @@ public final class ReadingTest {
 
     private static void slips() {
         PostalLines x = new PostalLines();
-        street(x, "anna");
+        Check.street(x, "anna");
         check.due("anna", fit(x, "Anna"), 0);
         String[] slips = {"xnna", "axna", "anxa", "annx", "nna", "ana", "ann", "xanna", "axnna", "anxna", "annxa", "annax",
             "annna", "aanna", "ann\u00e9", "anna\ud83d\ude00", "an\ud83d\ude00a", "9nna"};
@@ -209,28 +201,28 @@ public final class ReadingTest {
             "anna b", "an na", "aan", "ax\ud83d\ude00a"};
         for (String line : none) check.due(line, fit(x, line), PostalLines.NONE);
         PostalLines y = new PostalLines();
-        street(y, "ann");
+        Check.street(y, "ann");
         check.due("ann", fit(y, "ann"), 0);
         for (String line : new String[] {"an", "anx", "anna"}) {
             check.due(line + " of a WORD of 3 SIGNS", fit(y, line), PostalLines.NONE);
         }
         PostalLines z = new PostalLines();
-        street(z, "abcdefghijklmnop");
+        Check.street(z, "abcdefghijklmnop");
         check.due("15 of 16 SIGNS", fit(z, "bcdefghijklmnop"), 3);
         check.due("the last one another", fit(z, "abcdefghijklmnox"), 3);
         PostalLines w = new PostalLines();
-        street(w, "main anna long road");
+        Check.street(w, "main anna long road");
         check.due("four SLIPS", fit(w, "mann ana, longe roxd"), 12);
         check.due("one SLIP", fit(w, "main anna long roa"), 3);
         check.due("one WORD with two", fit(w, "main anna long ro"), PostalLines.NONE);
         PostalLines p = new PostalLines();
-        street(p, "\ud83d\ude00\ud83d\ude00\ud83d\ude00");
+        Check.street(p, "\ud83d\ude00\ud83d\ude00\ud83d\ude00");
         check.due("3 SIGNS of two UNITS each", fit(p, "\ud83d\ude00\ud83d\ude00"), PostalLines.NONE);
     }
 
     private static void shorts() {
         PostalLines x = new PostalLines();
-        street(x, "saint anna main street");
+        Check.street(x, "saint anna main street");
         int st = Check.name(x, "st");
         int sa = Check.name(x, "sa");
         int all = Check.name(x, "all");
@@ -251,14 +243,14 @@ public final class ReadingTest {
         check.due("not for a part of what it stands for", fit(x, "sa anna main street"), PostalLines.NONE);
         check.due("more WORDS than the NAME", fit(x, "all street"), PostalLines.NONE);
         PostalLines y = new PostalLines();
-        street(y, "st b");
+        Check.street(y, "st b");
         check.due("a long one for a short one", fit(y, "street b"), PostalLines.NONE);
         y.shorten(Check.name(y, "stre"), Check.name(y, "stret"));
-        street(y, "stret");
+        Check.street(y, "stret");
         Check.line(y, "stre");
         check.due("a SHORT costs less than a SLIP", y.fits(0, 1), 1);
         PostalLines z = new PostalLines();
-        street(z, "a b a");
+        Check.street(z, "a b a");
         z.shorten(Check.name(z, "a"), Check.name(z, "a b"));
         check.due("the SHORT though the WORD is LIKE", fit(z, "a a"), 1);
         check.due("the WORD though it is a SHORT", fit(z, "a b a"), 0);
@@ -267,14 +259,14 @@ public final class ReadingTest {
 
     private static void severalNames() {
         PostalLines x = new PostalLines();
-        street(x, "anna");
+        Check.street(x, "anna");
         x.also(0, Check.name(x, "annas"));
         x.also(0, Check.name(x, "anna strasse"));
         check.due("its first", fit(x, "anna"), 0);
         check.due("its second", fit(x, "annas"), 0);
         check.due("its third, with a SLIP", fit(x, "anna strase"), 3);
         check.due("none", fit(x, "bertha"), PostalLines.NONE);
-        town(x, "anna");
+        Check.town(x, "anna");
         Check.line(x, "annas");
         check.due("a TOWN has one", x.fits(1, 0), 3);
         x.town(Check.name(x, "ulm"), 0, 0);
@@ -287,7 +279,7 @@ public final class ReadingTest {
 
     private static void fittingRefusals() {
         PostalLines x = new PostalLines();
-        street(x, "anna");
+        Check.street(x, "anna");
         x.drop();
         for (int way : new int[] {-1, 2, Integer.MIN_VALUE, Integer.MAX_VALUE}) {
             check.due("way " + way, x.fits(way, 0), PostalLines.BAD);
@@ -306,8 +298,8 @@ public final class ReadingTest {
 
     private static void orderOfParts() {
         PostalLines x = with(0, TOWN, CODE, STREET, NUMBER);
-        street(x, "main");
-        town(x, "ulm");
+        Check.street(x, "main");
+        Check.town(x, "ulm");
         reads(x, "ulm 12345 main 7", 0, "0123");
         reads(x, "7 main 12345 ulm", 14, "5235");
         reads(x, "main 7 ulm", 10, "235");
@@ -321,40 +313,40 @@ public final class ReadingTest {
         reads(x, "7 7", 4, "05");
         reads(x, "7 7 7", 8, "055");
         PostalLines y = with(0, STREET, TOWN);
-        street(y, "a");
-        street(y, "a a");
-        town(y, "a");
-        town(y, "a a");
+        Check.street(y, "a");
+        Check.street(y, "a a");
+        Check.town(y, "a");
+        Check.town(y, "a a");
         reads(y, "a", 3, "0");
         reads(y, "a a", 0, "01");
         reads(y, "a a a", 0, "001");
         reads(y, "a a a a", 0, "0011");
         reads(y, "a a a a a", 4, "00115");
         PostalLines z = with(0, TOWN, STREET);
-        street(z, "a");
-        town(z, "b");
+        Check.street(z, "a");
+        Check.town(z, "b");
         reads(z, "a b", 7, "15");
         PostalLines w = with(0, STREET, NUMBER);
-        street(w, "7");
+        Check.street(w, "7");
         reads(w, "7", 3, "0");
         reads(w, "7 7", 0, "01");
         PostalLines v = with(0, NUMBER, STREET);
-        street(v, "7");
+        Check.street(v, "7");
         reads(v, "7", 3, "0");
         PostalLines u = with(2, NUMBER, STREET);
-        street(u, "7");
+        Check.street(u, "7");
         reads(u, "7", 3, "1");
     }
 
     private static void leastPlaces() {
         PostalLines x = with(0, STREET, TOWN);
-        street(x, "bertha");
-        street(x, "annas");
-        street(x, "anna");
-        street(x, "anna");
-        town(x, "ulms");
-        town(x, "ulm");
-        town(x, "ulm");
+        Check.street(x, "bertha");
+        Check.street(x, "annas");
+        Check.street(x, "anna");
+        Check.street(x, "anna");
+        Check.town(x, "ulms");
+        Check.town(x, "ulm");
+        Check.town(x, "ulm");
         reads(x, "anna ulm", 0, "01");
         check.due("the least of the cheapest STREETS", x.of(0, 7), 2);
         check.due("the least of the cheapest TOWNS", x.of(0, 10), 1);
@@ -368,7 +360,7 @@ public final class ReadingTest {
 
     private static void latestReading() {
         PostalLines x = with(0, NUMBER, STREET);
-        street(x, "main");
+        Check.street(x, "main");
         reads(x, "x 7 main", 4, "501");
         for (int k : new int[] {-1, 3, 14, Integer.MIN_VALUE, Integer.MAX_VALUE}) {
             check.due("mark(" + k + ")", x.mark(k), PostalLines.NONE);
@@ -391,9 +383,9 @@ public final class ReadingTest {
 
     private static void longestLine() {
         PostalLines x = with(0, STREET, TOWN);
-        street(x, "m n");
+        Check.street(x, "m n");
         reads(x, "a b c d e f g h i j k l m n", 51, "55555555555500");
-        town(x, "a b c d");
+        Check.town(x, "a b c d");
         reads(x, "a, b, c, d, e, f, g, h, i, j, k, l, m, n", 49, "11115555555555");
         reads(x, "m, n, a, b, c, d, g, h, i, j, k, l, m, n", 40, "00111155555555");
         PostalLines y = with(0, NUMBER, STREET, UNIT, TOWN, CODE);
