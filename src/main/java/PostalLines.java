@@ -1008,7 +1008,8 @@ public final class PostalLines {
                 case STREET: return streetRows.costOf(start, length);
                 case UNIT: return length == 2 && isUnit(start) ? 0 : NEVER;
                 case TOWN: return townRows.costOf(start, length);
-                default: return length == 1 && text.isCode(start) ? 0 : NEVER;
+                case CODE: return length == 1 && text.isCode(start) ? 0 : NEVER;
+                default: return NEVER;
             }
         }
 

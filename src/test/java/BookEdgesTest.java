@@ -439,6 +439,20 @@ public final class BookEdgesTest {
         });
         e.is(60, "60 of 4 WORDS", x -> x.count(1));
         e.isOf(59, "a b c \u0103", x -> x.name());
+        e.given(x -> {
+            for (int i = 0; i < 60; i++) {
+                x.drop();
+                x.feed(0x00c8_0020_012c_0020L + i * 0x0001_0000_0001_0000L, 4);
+                x.feed(0x0190_0020_01f4_0020L + i * 0x0001_0000_0001_0000L, 4);
+                x.name();
+            }
+            x.street(59);
+            x.street(0);
+            Check.grammar(x, 1, STREET);
+        });
+        e.is(60, "60 of 4 other WORDS each", x -> x.count(1));
+        e.reads(Check.times("y ", 10) + "\u0103 \u0167 \u01cb \u022f", 40, "55555555550000");
+        e.reads("\u00c8 \u012c \u0190 \u01f4" + Check.times(" y", 10), 40, "00005555555555");
         e.says("the same WORDS are the same NAME");
         e.given(x -> {
             Check.name(x, "Ab c");
@@ -484,6 +498,21 @@ public final class BookEdgesTest {
         e.writes("zz", "Zz");
         e.writes("cc", "Zz");
         e.refuses(FULL, "a fifth NAME", x -> x.also(0, 4));
+        e.given(x -> {
+            Check.names(x, 60);
+            for (int i = 0; i < 30; i++) x.street(i);
+            for (int i = 0; i < 30; i++) x.also(i, i + 30);
+            for (int i = 0; i < 30; i++) x.also(i, (i + 1) % 30);
+            for (int i = 0; i < 30; i++) x.also(i, (i + 1) % 30 + 30);
+        });
+        for (int street : new int[] {0, 8, 28, 29}) {
+            int next = (street + 1) % 30;
+            for (int name : new int[] {street, street + 30, next, next + 30}) {
+                e.isOf(0, "" + (char) (200 + name), x -> x.fits(0, street));
+            }
+            e.isOf(NONE, "" + (char) (200 + (street + 2) % 30), x -> x.fits(0, street));
+            e.refuses(FULL, "a fifth NAME of STREET " + street, x -> x.also(street, (street + 2) % 30));
+        }
         e.says("TOWNS (20 at most) one NAME, and CODES from low to high (0 .. 99999)");
         e.given(x -> towns(x, 20));
         e.is(20, "20", x -> x.count(4));
@@ -492,6 +521,22 @@ public final class BookEdgesTest {
         e.is(0, "0 .. 99999", x -> x.town(0, 0, 99999));
         e.refuses(BAD, "-1 ..", x -> x.town(0, -1, 99999));
         e.refuses(BAD, ".. 100000", x -> x.town(0, 0, 100000));
+        e.given(x -> {
+            Check.names(x, 60);
+            x.street(0);
+            Check.grammar(x, 0, NUMBER, STREET, TOWN, CODE);
+            for (int i = 0; i < 20; i++) {
+                x.town(40 + i, 10 * i, 10 * i + 9);
+                x.range(0, i, i, 0, i, i);
+            }
+        });
+        for (int town : new int[] {0, 1, 18, 19}) {
+            String name = " " + (char) (240 + town), codes = String.format(" %04d", town);
+            e.isOf(0, name, x -> x.fits(1, town));
+            e.isOf(town, town + " \u00c8" + name + codes + "0", x -> x.carrier(x.read(0)));
+            e.isOf(town, town + " \u00c8" + name + codes + "9", x -> x.carrier(x.read(0)));
+            e.isOf(NONE, town + " \u00c8" + name + String.format(" %05d", 10 * town + 10), x -> x.carrier(x.read(0)));
+        }
         e.says("A NAME may be of several");
         e.given(x -> {
             Check.names(x, 2);

@@ -157,6 +157,10 @@ public final class DeliveryEdgesTest {
         e.isOf(0, "7, main x", x -> x.canonical(x.read(0)) == 6 ? x.read(0) : BAD);
         e.isOf(7, "7, main x", x -> x.canonical(x.read(0)) == 6 ? x.feed('y', 1) : BAD);
         e.isOf(6, "7, main x", x -> x.canonical(x.read(0)) == 6 ? x.drop() : BAD);
+        e.given(DeliveryEdgesTest::seven);
+        e.is(4, "behind another one", x -> x.canonical(6) > 4 ? x.canonical(1) : BAD);
+        e.is('M', "behind another one", x -> x.canonical(6) > 4 ? x.canonical(1) + x.unitAt(0) - 4 : BAD);
+        e.is(4, "the same once more", x -> x.canonical(1) == 4 ? x.canonical(1) : BAD);
         e.says("how many UNITS");
         e.given(DeliveryEdgesTest::book);
         e.isOf(0, "x", x -> x.canonical(x.read(0)));
@@ -180,6 +184,7 @@ public final class DeliveryEdgesTest {
             });
             e.refuses(FULL, "one UNIT more and many", x -> x.canonical(0));
             e.is(4, "THE LINE stays", x -> x.canonical(0) == FULL ? x.count(0) : BAD);
+            e.isOf(9, "s x 9 x y", x -> x.canonical(0) == FULL ? x.unitAt(4) - 48 : BAD);
         }
     }
 

@@ -159,6 +159,14 @@ public final class LineEdgesTest {
             x.drop();
         });
         e.is(4, "feed, where it was full", x -> x.feed(0, 4));
+        for (String line : new String[] {SIXTEEN + "q", FOURTEEN + " o", "\ud800", "a,", ""}) {
+            e.given(x -> {
+                Check.feed(x, line);
+                x.words();
+            });
+            e.isOf(2, "a b", x -> x.words());
+            e.folds("a b", "a b");
+        }
         e.given(x -> {
             used(x);
             x.drop();
@@ -394,7 +402,7 @@ public final class LineEdgesTest {
         for (int unit : new int[] {128, 55295, 57344, 65535}) e.isOf(unit, "" + (char) unit, x -> x.sign(0, 0));
         e.says("A BROKEN one is a UNIT of 55296 .. 57343 that is so alone");
         String[] broken = {"\ud800", "\udbff", "\udc00", "\udfff", "a\ud800", "\ud800a", "a\udc00", "\udc00a", "\ud800\ud7ff",
-            "\ud800\ue000", "\ud800\udbff", "\udc00\ud800", "\udbff\ud800\udc00", "\ud800\udc00\udc00", "\udfff\udfff"};
+            "\ud800\ue000", "\ud800\udbff", "\udc00\ud800", "\udbff\ud800\udc00", "\ud800\udc00\udc00", "\udfff\udfff", "\udc00\udc00", "\ud800\ud800"};
         for (String line : broken) e.refusesOf(BROKEN, line, x -> x.words());
         e.is(BROKEN, "the 120th", x -> {
             full(x, 119);

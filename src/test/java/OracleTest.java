@@ -25,6 +25,7 @@ public final class OracleTest {
         int runs = args.length > 0 ? Integer.parseInt(args[0]) : RUNS;
         for (int run = 0; run < runs; run++) new OracleTest(run).go();
         for (int run = 0; run < 60; run++) new OracleTest(1000000 + run).goWide();
+        for (int run = 0; run < 200; run++) new OracleTest(2000000 + run).goWild();
         check.end();
     }
 
@@ -254,5 +255,53 @@ public final class OracleTest {
             delivery();
         }
         look();
+    }
+
+    /** Mostly small numbers, and those around each bound of the document and of the machine. */
+    private int wild() {
+        int[] some = {Integer.MIN_VALUE, Integer.MIN_VALUE + 1, -65536, -16, -3, -2, -1, 0, 1, 2, 3, 4, 5, 7, 8, 9, 10, 11, 13, 14,
+            15, 16, 17, 19, 20, 21, 29, 30, 31, 32, 39, 40, 41, 59, 60, 61, 119, 120, 121, 255, 256, 999, 1000, 55295, 55296,
+            57343, 57344, 65535, 65536, 99999, 100000, 1114111, 1114112, 1 << 28, 1 << 30, Integer.MAX_VALUE - 1,
+            Integer.MAX_VALUE};
+        return oneOf(2) ? any(4) : some[any(some.length)];
+    }
+
+    /** Any call with any numbers, on a small book that grows by those that are good. */
+    private void goWild() {
+        for (int i = 0; i < 6; i++) name(1 + any(2));
+        for (int i = 0; i < 3; i++) grammar();
+        while (calls < CALLS) wildStep();
+    }
+
+    private void wildStep() {
+        int a = wild(), b = wild(), c = wild(), d = wild(), t = wild(), f = wild();
+        long w = (long) a << 32 ^ b;
+        String told = "(" + a + ", " + b + ", " + c + ", " + d + ", " + t + ", " + f + ")";
+        switch (any(26)) {
+            case 0: due("feed " + told, x.feed(w, c), y.feed(w, c)); break;
+            case 1: if (oneOf(4)) due("drop()", x.drop(), y.drop()); break;
+            case 2: due("fold " + told, x.fold(a, b, c), y.fold(a, b, c)); break;
+            case 3: due("words()", x.words(), y.words()); break;
+            case 4: due("sign " + told, x.sign(a, b), y.sign(a, b)); break;
+            case 5: due("name()", x.name(), y.name()); break;
+            case 6: due("shorten " + told, x.shorten(a, b), y.shorten(a, b)); break;
+            case 7: due("street " + told, x.street(a), y.street(a)); break;
+            case 8: due("also " + told, x.also(a, b), y.also(a, b)); break;
+            case 9: due("town " + told, x.town(a, b, c), y.town(a, b, c)); break;
+            case 10: due("unit " + told, x.unit(a), y.unit(a)); break;
+            case 11: due("range " + told, x.range(a, b, c, d, t, f), y.range(a, b, c, d, t, f)); break;
+            case 12: due("grammar " + told, x.grammar(a, b, c), y.grammar(a, b, c)); break;
+            case 13: case 14: due("read " + told, x.read(a), y.read(a)); break;
+            case 15: due("cost()", x.cost(), y.cost()); break;
+            case 16: due("mark " + told, x.mark(a), y.mark(a)); break;
+            case 17: due("fits " + told, x.fits(a, b), y.fits(a, b)); break;
+            case 18: due("of " + told, x.of(a, b), y.of(a, b)); break;
+            case 19: due("unitSign " + told, x.unitSign(a, b), y.unitSign(a, b)); break;
+            case 20: due("carrier " + told, x.carrier(a), y.carrier(a)); break;
+            case 21: if (oneOf(4)) due("canonical " + told, x.canonical(a), y.canonical(a)); break;
+            case 22: due("unitAt " + told, x.unitAt(a), y.unitAt(a)); break;
+            case 23: due("count " + told, x.count(a), y.count(a)); break;
+            default: address(1 + any(4));
+        }
     }
 }
