@@ -464,6 +464,24 @@ public final class BookEdgesTest {
         e.isOf(2, "ab c d", x -> x.name());
         e.isOf(2, "abc", x -> x.name());
         e.isOf(2, "a bc", x -> x.name());
+        e.given(x -> {
+            Check.name(x, "a b c d");
+            Check.name(x, "e");
+            Check.name(x, "f g");
+            Check.name(x, "c d a b");
+        });
+        e.isOf(1, "e", x -> x.name());
+        e.isOf(2, "f g", x -> x.name());
+        e.isOf(0, "a b c d", x -> x.name());
+        e.isOf(4, "a b c", x -> x.name());
+        e.given(x -> {
+            Check.name(x, SIXTEEN + " q" + SIXTEEN.substring(1));
+            x.street(0);
+            Check.name(x, SIXTEEN.substring(1) + "q r");
+        });
+        e.isOf(0, SIXTEEN + " q" + SIXTEEN.substring(1), x -> x.name());
+        e.isOf(0, SIXTEEN + " q" + SIXTEEN.substring(1), x -> x.fits(0, 0));
+        e.isOf(1, SIXTEEN.substring(1) + "q r", x -> x.name());
         e.given(x -> Check.names(x, 60));
         e.isOf(0, "\u00c8", x -> x.name());
         e.isOf(59, "\u0103", x -> x.name());

@@ -114,6 +114,14 @@ public final class DeliveryEdgesTest {
         e.is(128512, "of two UNITS", x -> x.unitSign(6, 0));
         e.is('y', "behind it", x -> x.unitSign(6, 1));
         e.isOf('4', "apt 1234", x -> x.unitSign(x.read(0), 3));
+        e.given(x -> {
+            book(x);
+            for (String line : new String[] {"apt 1", "apt 1234", "apt 5678", "7"}) Check.read(x, line);
+        });
+        for (int i : new int[] {0, 1, 2, 3}) {
+            e.is('1' + i, "unitSign(1, " + i + "), others behind it", x -> x.unitSign(1, i));
+            e.is('5' + i, "unitSign(2, " + i + "), others behind it", x -> x.unitSign(2, i));
+        }
         e.says("NONE");
         e.given(DeliveryEdgesTest::seven);
         for (int i : new int[] {-1, 2, 3, 4, LEAST, MOST}) e.is(NONE, "unitSign(2, " + i + ")", x -> x.unitSign(2, i));
@@ -355,6 +363,8 @@ public final class DeliveryEdgesTest {
         e.writes("00070z", "70z");
         e.writes("10", "10");
         e.writes("10000", "10000");
+        e.writes("1", "1");
+        e.writes("00002c", "2c");
         e.writes("99999z", "99999z");
         e.says("STREET, TOWN: the WORDS of the first NAME, a blank between");
         e.given(x -> {

@@ -292,6 +292,21 @@ public final class ReadingEdgesTest {
         });
         e.reads("a", 0, "0");
         e.reads("a b c d", 0, "0000");
+        e.given(x -> {
+            Check.names(x, 9);
+            Check.grammar(x, 1, STREET);
+            x.street(1);
+            x.street(2);
+            for (int name = 3; name <= 5; name++) x.also(1, name);
+            x.street(6);
+            x.street(7);
+        });
+        for (int name : new int[] {0, 8}) e.isOf(NONE, "" + (char) (200 + name), x -> x.read(0));
+        int[] streets = {0, 1, 1, 1, 1, 2, 3};
+        for (int name = 1; name <= 7; name++) {
+            int street = streets[name - 1];
+            e.isOf(street, "" + (char) (200 + name), x -> x.read(0) == 0 ? x.of(0, 7) : BAD);
+        }
         e.says("2 UNIT: a WORD that is a UNIT WORD, and one of 1 to 4 SIGNS behind it");
         e.given(x -> {
             Check.grammar(x, 1, UNIT);
@@ -321,6 +336,16 @@ public final class ReadingEdgesTest {
         });
         e.reads("a", 0, "0");
         e.reads("a b c d", 0, "0000");
+        e.given(x -> {
+            Check.names(x, 4);
+            Check.grammar(x, 1, TOWN);
+            x.town(1, 0, 0);
+            x.town(2, 0, 0);
+        });
+        for (int name : new int[] {0, 3}) e.isOf(NONE, "" + (char) (200 + name), x -> x.read(0));
+        for (int name : new int[] {1, 2}) {
+            e.isOf(name - 1, "" + (char) (200 + name), x -> x.read(0) == 0 ? x.of(0, 10) : BAD);
+        }
         e.says("4 CODE: a WORD of just 5 figures");
         e.given(x -> Check.grammar(x, 1, CODE));
         e.isOf(0, "00000", x -> x.read(0) == 0 ? x.of(0, 11) : BAD);
