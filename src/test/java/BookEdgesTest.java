@@ -20,8 +20,14 @@ public final class BookEdgesTest {
         unit();
         range();
         grammar();
+        grammarRefused();
         namesAndShorts();
+        sameNames();
+        shortNames();
         places();
+        townsAndCodes();
+        namesOfSeveral();
+        sidesAndCarriers();
         refusals();
         e.end();
     }
@@ -380,6 +386,9 @@ public final class BookEdgesTest {
         e.given(x -> grammars(x, 7));
         e.is(7, "an 8th", x -> x.grammar(5, Check.order(0, 1, 2, 3, 4), 31));
         e.is(7, "an 8th like others", x -> x.grammar(1, 0, 1));
+    }
+
+    private static void grammarRefused() {
         e.says("BAD: order below 0");
         e.given(x -> { });
         for (int order : new int[] {-1, -8, -7, LEAST, LEAST + 1}) {
@@ -453,6 +462,9 @@ public final class BookEdgesTest {
         e.is(60, "60 of 4 other WORDS each", x -> x.count(1));
         e.reads(Check.times("y ", 10) + "\u0103 \u0167 \u01cb \u022f", 40, "55555555550000");
         e.reads("\u00c8 \u012c \u0190 \u01f4" + Check.times(" y", 10), 40, "00005555555555");
+    }
+
+    private static void sameNames() {
         e.says("the same WORDS are the same NAME");
         e.given(x -> {
             Check.name(x, "Ab c");
@@ -491,6 +503,9 @@ public final class BookEdgesTest {
         });
         e.isOf(1, "aq", x -> x.name());
         e.isOf(1, "ak", x -> x.name());
+    }
+
+    private static void shortNames() {
         e.says("A SHORT (30 at most) is a NAME of one WORD that stands for a NAME (any other one)");
         e.given(x -> shorts(x, 29));
         e.is(1, "a 30th, of two WORDS", x -> x.shorten(31, 32));
@@ -531,6 +546,9 @@ public final class BookEdgesTest {
             e.isOf(NONE, "" + (char) (200 + (street + 2) % 30), x -> x.fits(0, street));
             e.refuses(FULL, "a fifth NAME of STREET " + street, x -> x.also(street, (street + 2) % 30));
         }
+    }
+
+    private static void townsAndCodes() {
         e.says("TOWNS (20 at most) one NAME, and CODES from low to high (0 .. 99999)");
         e.given(x -> towns(x, 20));
         e.is(20, "20", x -> x.count(4));
@@ -555,6 +573,9 @@ public final class BookEdgesTest {
             e.isOf(town, town + " \u00c8" + name + codes + "9", x -> x.carrier(x.read(0)));
             e.isOf(NONE, town + " \u00c8" + name + String.format(" %05d", 10 * town + 10), x -> x.carrier(x.read(0)));
         }
+    }
+
+    private static void namesOfSeveral() {
         e.says("A NAME may be of several");
         e.given(x -> {
             Check.names(x, 2);
@@ -573,6 +594,9 @@ public final class BookEdgesTest {
         e.is(10, "10", x -> x.count(5));
         e.refuses(FULL, "an 11th", x -> x.unit(10));
         e.refuses(KIND, "two WORDS", x -> x.unit(58));
+    }
+
+    private static void sidesAndCarriers() {
         e.says("RANGES (60 at most): a STREET, from low to high (0 .. 99999)");
         e.given(x -> ranges(x, 60));
         e.is(60, "60", x -> x.count(6));

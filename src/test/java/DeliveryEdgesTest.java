@@ -13,8 +13,11 @@ public final class DeliveryEdgesTest {
         carrier();
         canonical();
         deliveries();
+        unitsAlike();
+        carriersOfWhich();
         carriers();
         canonicalLines();
+        canonicalUnitsAndCodes();
         e.end();
     }
 
@@ -230,6 +233,9 @@ public final class DeliveryEdgesTest {
         });
         e.isOf(0, "mai ulm", x -> x.read(0));
         for (String line : new String[] {"main", "ulm", "saint anna ulm", "main bonn"}) e.isOf(1, line, x -> x.read(0));
+    }
+
+    private static void unitsAlike() {
         e.says("UNIT: the UNIT WORD's NAME and the SIGNS behind it");
         e.given(x -> {
             book(x);
@@ -269,6 +275,9 @@ public final class DeliveryEdgesTest {
         e.says("they are numbered as they come");
         e.given(DeliveryEdgesTest::forty);
         for (int d : new int[] {0, 1, 38, 39}) e.is(d, "of(" + d + ", 5)", x -> x.of(d, 5));
+    }
+
+    private static void carriersOfWhich() {
         e.says("The CARRIER of one with a STREET and a NUMBER");
         e.given(x -> {
             book(x);
@@ -378,6 +387,9 @@ public final class DeliveryEdgesTest {
         e.writes("yyyy", "A B C D");
         e.writes("a b c d", "A B C D");
         e.writes("ww xx", "Ww Xx");
+    }
+
+    private static void canonicalUnitsAndCodes() {
         e.says("UNIT: the WORD, a blank, the SIGNS");
         e.given(x -> {
             Check.grammar(x, 1, UNIT);

@@ -12,13 +12,17 @@ public final class LineEdgesTest {
     public static void main(String[] args) {
         aNewObject();
         feed();
+        feedRefused();
         drop();
         fold();
+        foldRefused();
         words();
         sign();
         unitAt();
         count();
         units();
+        brokenUnits();
+        foldedSigns();
         wordsOfTheLine();
         calls();
         e.end();
@@ -123,6 +127,9 @@ public final class LineEdgesTest {
         e.is(120, "3 behind 117", x -> x.feed(0, 3));
         e.given(x -> full(x, 119));
         e.is(120, "1 behind 119", x -> x.feed(0, 1));
+    }
+
+    private static void feedRefused() {
         e.says("FULL");
         e.given(x -> full(x, 120));
         for (int n : new int[] {1, 2, 3, 4}) e.refuses(FULL, n + " behind 120", x -> x.feed(0, n));
@@ -229,6 +236,9 @@ public final class LineEdgesTest {
         e.is(1, "fold('q', 'k', -1)", x -> x.fold('q', 'k', -1));
         e.given(x -> x.fold('q', 'k', -1));
         e.folds("aqa", "aka");
+    }
+
+    private static void foldRefused() {
         e.says("BAD");
         e.given(x -> x.fold('q', 'k', -1));
         e.refuses(BAD, "ahead of TWICE", x -> x.fold('q', -1, -1));
@@ -400,6 +410,9 @@ public final class LineEdgesTest {
         e.isOf(1114111, "\udbff\udfff", x -> x.sign(0, 0));
         e.says("each other UNIT is a SIGN itself");
         for (int unit : new int[] {128, 55295, 57344, 65535}) e.isOf(unit, "" + (char) unit, x -> x.sign(0, 0));
+    }
+
+    private static void brokenUnits() {
         e.says("A BROKEN one is a UNIT of 55296 .. 57343 that is so alone");
         String[] broken = {"\ud800", "\udbff", "\udc00", "\udfff", "a\ud800", "\ud800a", "a\udc00", "\udc00a", "\ud800\ud7ff",
             "\ud800\ue000", "\ud800\udbff", "\udc00\ud800", "\udbff\ud800\udc00", "\ud800\udc00\udc00", "\udfff\udfff", "\udc00\udc00", "\ud800\ud800"};
@@ -409,6 +422,9 @@ public final class LineEdgesTest {
             x.feed(0xd800, 1);
             return x.words();
         });
+    }
+
+    private static void foldedSigns() {
         e.says("FOLDED: a SIGN that has a FOLD (30 at most) becomes the one or two SIGNS told");
         e.given(x -> {
             x.fold('Q', 'k', 'w');

@@ -10,15 +10,25 @@ public final class ReadingEdgesTest {
 
     public static void main(String[] args) {
         read();
+        readNone();
+        readRefused();
         cost();
         mark();
         fits();
+        fitsNone();
+        fitsRefused();
         parts();
+        unitParts();
+        townsAndCodes();
+        grammars();
         readings();
         costs();
         names();
+        shorts();
         slips();
         theReading();
+        leastMarks();
+        leastPlaces();
         e.end();
     }
 
@@ -75,6 +85,9 @@ public final class ReadingEdgesTest {
         e.given(ReadingEdgesTest::forty);
         e.isOf(0, "0", x -> x.read(0));
         e.isOf(39, "39", x -> x.read(0));
+    }
+
+    private static void readNone() {
         e.says("NONE: there is no READING");
         e.given(x -> must(x, NUMBER));
         e.refusesOf(NONE, "main", x -> x.read(1));
@@ -94,6 +107,9 @@ public final class ReadingEdgesTest {
         e.refusesOf(NONE, "main 7", x -> x.read(1));
         e.given(ReadingEdgesTest::forty);
         e.refusesOf(NONE, "x", x -> x.read(0));
+    }
+
+    private static void readRefused() {
         e.says("BAD");
         e.given(ReadingEdgesTest::all);
         for (int no : new int[] {-1, 1, 7, 8, LEAST, MOST}) {
@@ -229,6 +245,9 @@ public final class ReadingEdgesTest {
         e.isOf(3, "main", x -> x.fits(0, 1));
         e.isOf(3, "main", x -> x.fits(1, 0));
         e.isOf(0, "main", x -> x.fits(1, 1));
+    }
+
+    private static void fitsNone() {
         e.says("NONE: it does not fit");
         e.given(x -> {
             Check.street(x, "anna strasse");
@@ -238,6 +257,9 @@ public final class ReadingEdgesTest {
             "ulm", FOURTEEN, "an strasse", "anna strass s"};
         for (String line : none) e.refusesOf(NONE, line, x -> x.fits(0, 0));
         for (String line : new String[] {"ul", "ulms", "ulm ulm", "anna strasse"}) e.refusesOf(NONE, line, x -> x.fits(1, 0));
+    }
+
+    private static void fitsRefused() {
         e.says("BAD");
         e.given(x -> {
             Check.street(x, "main");
@@ -307,6 +329,9 @@ public final class ReadingEdgesTest {
             int street = streets[name - 1];
             e.isOf(street, "" + (char) (200 + name), x -> x.read(0) == 0 ? x.of(0, 7) : BAD);
         }
+    }
+
+    private static void unitParts() {
         e.says("2 UNIT: a WORD that is a UNIT WORD, and one of 1 to 4 SIGNS behind it");
         e.given(x -> {
             Check.grammar(x, 1, UNIT);
@@ -328,6 +353,9 @@ public final class ReadingEdgesTest {
             for (int i = 2; i <= 10; i++) Check.unit(x, "u" + i);
         });
         e.reads("u10 x", 0, "00");
+    }
+
+    private static void townsAndCodes() {
         e.says("3 TOWN: a row of WORDS");
         e.given(x -> {
             Check.grammar(x, 1, TOWN);
@@ -353,6 +381,9 @@ public final class ReadingEdgesTest {
         for (String line : new String[] {"1234", "123456", "1234a", "12345a", "a2345", "12345\u0080", "1234 5"}) {
             e.isOf(NONE, line, x -> x.read(0));
         }
+    }
+
+    private static void grammars() {
         e.says("A GRAMMAR (8 at most) tells 1 to 5 PARTS, each once, in an order, and which of them MUST be");
         e.given(x -> {
             for (int i = 0; i < 8; i++) Check.grammar(x, i % 2, i % 5);
@@ -489,6 +520,9 @@ public final class ReadingEdgesTest {
         e.isOf(3, SIXTEEN.substring(1), x -> x.fits(0, 3));
         e.isOf(3, SIXTEEN.substring(0, 15), x -> x.fits(0, 3));
         e.isOf(3, SIXTEEN.substring(0, 15) + "x", x -> x.fits(0, 3));
+    }
+
+    private static void shorts() {
         e.says("that is a SHORT of the NAME's next WORDS (all of those for which it stands): 1");
         e.given(x -> {
             Check.street(x, "saint anna main road");
@@ -580,6 +614,9 @@ public final class ReadingEdgesTest {
         e.reads("7 a", 6, "11");
         e.reads("7 b, c, d", 7, "0222");
         e.reads("8 8 b c d", 7, "05222");
+    }
+
+    private static void leastMarks() {
         e.says("of several that of which the marks of WORDS, from the first on, are least");
         e.given(x -> Check.grammar(x, 0, NUMBER));
         e.reads("7 7", 4, "05");
@@ -614,6 +651,9 @@ public final class ReadingEdgesTest {
         e.isOf(1, "12345", x -> x.read(0) == 0 ? x.of(0, 4) : BAD);
         e.given(x -> book(x, CODE, TOWN, UNIT, NUMBER, STREET));
         e.reads("main 7 x", 20, "455");
+    }
+
+    private static void leastPlaces() {
         e.says("of several that with the least STREET");
         e.given(x -> {
             Check.grammar(x, 0, STREET, TOWN);
